@@ -33,8 +33,10 @@ public final class GeeseSums {
 
     /** An empty net. */
     public GeeseSums() {
+        net = new Net();
+        spare = new Net();
         tape = new Tape();
-        parser = new Parser(tape);
+        parser = new Parser(tape, spare);
         acts = new Acts();
         boxes = new Sky[BOXES];
         for (int i = 0; i < BOXES; i++) {
@@ -48,8 +50,6 @@ public final class GeeseSums {
         claims = new Claims(trial, paths, lying);
         chain = new Chain(lying);
         sights = new Sights(trial);
-        net = new Net();
-        spare = new Net();
     }
 
     // ---- the text ----
@@ -700,8 +700,9 @@ public final class GeeseSums {
         private int number;
         private int unitsHere;
 
-        Parser(Tape tape) {
+        Parser(Tape tape, Net net) {
             this.tape = tape;
+            this.net = net;
             towerNames = new long[Net.MOST_TOWERS];
             claimNames = new long[Net.MOST_CLAIMS];
             place = NONE;
@@ -1314,7 +1315,7 @@ public final class GeeseSums {
                 lost += n;
                 return;
             }
-            int fly = Math.min(n, MOST);
+            int fly = n < MOST ? n : MOST;
             lost += n - fly;
             flying += fly;
             on[way * SLOTS + (beats + net.beats[way]) % SLOTS] += fly;

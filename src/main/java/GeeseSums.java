@@ -1890,7 +1890,9 @@ public final class GeeseSums {
                 last = isKnown(i, k) ? Math.max(last, beats[i]) : last;
             }
             for (int t = 1; t <= last; t++) {
-                trial.sky.pass(net);
+                if (!trial.sky.isStill(net)) {
+                    trial.sky.pass(net);
+                }
                 for (int i = 0; i < many; i++) {
                     if (beats[i] == t && isKnown(i, k) && trial.sky.there[dusks[i]] != seen[i]) {
                         return false;

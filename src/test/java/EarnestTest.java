@@ -334,6 +334,7 @@ public final class EarnestTest {
         Check.due("all twelve left", x.flock(0, 12), 11);
         x.gust();
         Check.due("and no farther", x.flock(0, 12), 11);
+        Check.due("all on it", x.way(0, 3), 11);
         x.beats(11);
         Check.due("one left", x.flock(0, 1), 11);
         x.gust();

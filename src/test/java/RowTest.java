@@ -181,6 +181,8 @@ public final class RowTest {
         Check.due("what can't be comes first", two.against(0, 100, 5), -1);
         GeeseSums three = Check.on("start a;start b;start c;dusk d;way a to d in 1;claim x at d a;");
         Check.due("1000 rows", three.wrong(0, 9, 5), 0);
+        Check.due("against, 1000 rows", three.against(0, 9, 5), -1);
+        Check.due("against, 1331 rows", three.against(0, 10, 5), -2);
         Check.due("1331 rows", three.wrong(0, 10, 5), -2);
         Check.due("mend, 8 rows", three.mend(0, 1, 5), 0);
         Check.due("mend, 27 rows", three.mend(0, 2, 5), -2);
@@ -284,6 +286,8 @@ public final class RowTest {
         Check.due("none any more", y.loss(0, 2, 2, 9), 0);
         Check.due("not there yet", y.loss(0, 1, 2, 2), 0);
         Check.due("there in the last beat", y.loss(0, 1, 2, 3), 5);
+        Check.due("one less in the last beat", y.loss(1, 2, 2, 3), 1);
+        Check.due("set out in the last beat", y.loss(1, 2, 2, 2), 0);
     }
 
     private static void blind() {
@@ -303,6 +307,10 @@ public final class RowTest {
         y.row(0, 3);
         Check.due("seen", y.blind(1, 3), 0);
         Check.due("not there yet", y.blind(1, 2), 1);
+        GeeseSums z = Check.on("start a;odd o;dusk d;dusk e;way a to o in 1;way o to d in 1;way o to e in 1;");
+        z.row(0, 1);
+        Check.due("one alone is seen", z.blind(2, 3), 0);
+        Check.due("and not at e", z.blind(3, 3), 2);
     }
 
     private static void adds() {

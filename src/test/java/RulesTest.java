@@ -134,6 +134,13 @@ public final class RulesTest {
                 + "way s to o in 1;way s to f in 2;way o to k in 9;way o to w in 1;way p to k in 2;way f to d in 1;way k to s in 1;way w to d in 9;"
                 + "claim x at d a / (b - c);claim y at d (a + b + c) % 7 or not a;draw 999;",
             "start a;bread k 99;split s;dusk d;way a to k in 1;way k to s in 1;way s to k in 1;way s to d in 1;claim c at d a;",
+            "start a;start b;start c;dusk d;split s;split t;split u;odd v;odd w;odd x;way s to d in 1;way s to t in 1;way t to d in 2;way t to u in 1;"
+                + "way u to d in 3;way u to v in 1;way v to w in 1;way v to x in 1;way w to d in 1;way w to s in 1;way x to d in 1;way x to t in 1;"
+                + "way a to s in 1;way b to t in 1;way c to u in 1;claim a at d a;claim b at d b;claim c at d c;claim e at d a+b;claim f at d a+b+c;"
+                + "claim g at d 0;draw 1;",
+            "split s;start a;start b;dusk c;split d;split e;split f;split g;split h;odd i;way a to s in 1;way b to s in 1;way s to d in 1;way s to e in 1;"
+                + "way d to c in 1;way d to f in 1;way e to g in 1;way e to h in 1;way f to c in 1;way f to s in 2;way g to c in 2;way g to i in 1;"
+                + "way h to i in 1;way h to c in 1;way i to c in 1;way i to s in 9;claim c at c a+b;",
             "dusk d;claim c at d 1 / 0;", "", "start a;"};
         for (int seed = 0; seed < 100; seed++) {
             Random random = new Random(seed);

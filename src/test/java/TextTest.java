@@ -18,6 +18,8 @@ public final class TextTest {
         depth();
         units();
         lineWords();
+        fullTapes();
+        leftovers();
         Check.close("TextTest");
     }
 
@@ -385,5 +387,54 @@ public final class TextTest {
         Check.due("starts", x.about(1), 2);
         Check.due("net of none", Check.net(x, "draw 12;"), 0);
         Check.due("seed of none", x.about(5), 12);
+    }
+
+    private static void fullTapes() {
+        Check.fault(";".repeat(1600), 2, 0);
+        Check.fault(" ".repeat(1600), 0, -1);
+        Check.fault("start a;" + " ".repeat(1591) + ";", 2, 1599);
+        Check.fault("start a;" + " ".repeat(1591) + "5", 2, 1599);
+        Check.fault("start a;" + "\n".repeat(1585) + "start b", 2, 1600);
+        Check.fault("dusk d;claim c at d " + "+".repeat(1580), 2, 20);
+        Check.fault("a".repeat(1600), 1, 0);
+        Check.fault("5".repeat(1600), 1, 0);
+        String nots = "not ".repeat(7);
+        Check.fault("dusk d;claim c at d " + (nots + "1 or ").repeat(29) + nots + "1;", 0, -1);
+        Check.due("thirty ones", Check.on("dusk d;claim c at d " + (nots + "1 or ").repeat(29) + nots + "1;").about(12), 30);
+    }
+
+    /** What an earlier text or the cut end of this one left counts no more. */
+    private static void leftovers() {
+        GeeseSums x = Check.on("join j;join k;dusk d;claim c at d 1;claim e at d 1;");
+        Check.due("k was told", Check.net(x, "join j;way k to j in 1;"), -1);
+        Check.due("fault", x.fault(0), 5);
+        Check.due("place", x.fault(1), 11);
+        Check.due("c was told", Check.net(x, "dusk d;claim c at d 1;"), 1);
+        Check.due("k, told once", Check.net(x, "join k;start j;"), 2);
+        Check.type(x, "start a;pond p 3x");
+        x.end(16);
+        x.net();
+        Check.due("the letter was cut", x.fault(0), 2);
+        Check.due("place", x.fault(1), 16);
+        Check.type(x, "start a;pond p 300000");
+        x.end(16);
+        x.net();
+        Check.due("the digits were cut", x.fault(0), 2);
+        Check.due("place", x.fault(1), 16);
+        Check.type(x, "join abcdefghijk");
+        x.end(13);
+        x.net();
+        Check.due("the letters were cut", x.fault(0), 2);
+        Check.due("place", x.fault(1), 13);
+        Check.due("a way of its own", Check.net(x, "split s;way s to s in 1;"), 1);
+        x.net();
+        Check.due("ways are told anew", Check.net(x, "join s;way s to s in 1;"), 1);
+        Check.due("one", x.about(2), 1);
+        Check.due("a draw of its own", Check.net(x, "draw 5;"), 0);
+        Check.due("a draw again", Check.net(x, "draw 6;"), 0);
+        Check.due("seed", x.about(5), 6);
+        Check.due("none told", Check.net(x, "dusk d;"), 1);
+        Check.due("no seed", x.about(5), 0);
+        Check.due("no units", x.about(12), 0);
     }
 }

@@ -259,12 +259,7 @@ public final class GeeseSums {
         if (claims.ask(net, claim, m, beats) > Claims.MOST_ROWS_TO_MEND) {
             return SPENT;
         }
-        for (int many = 0; many <= Claims.MOST_MENDED; many++) {
-            if (claims.mendFrom(net, 0, many)) {
-                return many;
-            }
-        }
-        return NONE;
+        return claims.fewestToMend(net);
     }
 
     /** By how much less is reckoned, if one goose is lost. */
@@ -1526,7 +1521,7 @@ public final class GeeseSums {
     private static final class Claims {
         static final int MOST_ROWS = 1000;
         static final int MOST_ROWS_TO_MEND = 16;
-        static final int MOST_MENDED = 2;
+        private static final int MOST_MENDED = 2;
         private static final int LONGEST_WAY = 9;
 
         private final Trial trial;
@@ -1559,15 +1554,22 @@ public final class GeeseSums {
             return rows;
         }
 
-        private boolean isRight(Net net, int index) {
-            net.setRow(row, m, index);
-            return net.value(claim, row) == trial.reckoned(net, row, net.claimDusks[claim], beats);
+        /** The first wrong one of so many rows, from one on and round; it is in row then. */
+        private int wrongFrom(Net net, int from, int many) {
+            for (int i = 0; i < many; i++) {
+                int index = from + i < rows ? from + i : from + i - rows;
+                net.setRow(row, m, index);
+                if (net.value(claim, row) != trial.reckoned(net, row, net.claimDusks[claim], beats)) {
+                    return index;
+                }
+            }
+            return NONE;
         }
 
         int wrongOnes(Net net) {
             int many = 0;
             for (int i = 0; i < rows; i++) {
-                if (!isRight(net, i)) {
+                if (wrongFrom(net, i, 1) != NONE) {
                     many++;
                 }
             }
@@ -1575,34 +1577,29 @@ public final class GeeseSums {
         }
 
         int firstAgainst(Net net) {
-            for (int i = 0; i < rows; i++) {
-                if (!isRight(net, i)) {
-                    for (int start = 0; start < net.starts; start++) {
-                        lying.put(row[start]);
-                    }
-                    return i;
+            int index = wrongFrom(net, 0, rows);
+            for (int start = 0; start < net.starts && index != NONE; start++) {
+                lying.put(row[start]);
+            }
+            return index;
+        }
+
+        int fewestToMend(Net net) {
+            for (int many = 0; many <= MOST_MENDED; many++) {
+                if (mendFrom(net, 0, many)) {
+                    return many;
                 }
             }
             return NONE;
         }
 
-        /** The row that was wrong last is tried first: most often it is wrong again. */
-        private boolean isRightForAll(Net net) {
-            int from = suspect;
-            for (int i = 0; i < rows; i++) {
-                int index = from + i < rows ? from + i : from + i - rows;
-                if (!isRight(net, index)) {
-                    suspect = index;
-                    return false;
-                }
-            }
-            return true;
-        }
-
         /** Gives so many ways, from one on, other beats, and takes them back: what mended lies there then. */
-        boolean mendFrom(Net net, int from, int many) {
+        private boolean mendFrom(Net net, int from, int many) {
             if (many <= 0 || many > MOST_MENDED) {
-                return many == 0 && isRightForAll(net);
+                int wrong = wrongFrom(net, suspect, rows);
+                // Tried first the next time: most often it is wrong again.
+                suspect = wrong == NONE ? suspect : wrong;
+                return many == 0 && wrong == NONE;
             }
             for (int way = from; way < net.ways; way++) {
                 boolean isUseful = (useful >> way & 1) == 1;

@@ -1,11 +1,34 @@
+import java.lang.reflect.Method;
 import java.nio.charset.StandardCharsets;
+import java.util.ArrayList;
+import java.util.List;
 
 /** What all tests share: answers that are due, and texts fed as calls. */
 final class Check {
     private static int passed = 0;
     private static int failed = 0;
+    // The test that is run, told ahead of what answered otherwise.
+    private static String where = "";
 
     private Check() {
+    }
+
+    /** Runs every static method without parameters whose name begins with a promise (p10..) or a heading of Terms (t2..). */
+    static void edges(Class<?> tests) throws ReflectiveOperationException {
+        List<Method> methods = new ArrayList<>();
+        for (Method method : tests.getDeclaredMethods()) {
+            if (method.getName().matches("(p\\d\\d|t\\d)[A-Z]\\w*") && method.getParameterCount() == 0) {
+                methods.add(method);
+            }
+        }
+        methods.sort((a, b) -> a.getName().compareTo(b.getName()));
+        for (Method method : methods) {
+            where = tests.getSimpleName() + "." + method.getName() + ": ";
+            int before = passed + failed;
+            method.invoke(null);
+            due("asks for something", passed + failed > before, true);
+        }
+        where = "";
     }
 
     static void due(String what, long got, long want) {
@@ -14,7 +37,7 @@ final class Check {
         } else {
             failed++;
             if (failed <= 50) {
-                System.out.println(what + " answered " + got + ", due is " + want);
+                System.out.println(where + what + " answered " + got + ", due is " + want);
             }
         }
     }

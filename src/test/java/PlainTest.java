@@ -7,7 +7,7 @@ public final class PlainTest {
     private static Random random = new Random(0);
 
     public static void main(String[] args) {
-        int runs = args.length > 0 ? Integer.parseInt(args[0]) : 600;
+        int runs = args.length > 0 ? Integer.parseInt(args[0]) : 3000;
         int from = args.length > 1 ? Integer.parseInt(args[1]) : 0;
         for (int run = from; run < from + runs; run++) {
             random = new Random(run);
@@ -126,7 +126,7 @@ public final class PlainTest {
         return s.toString();
     }
 
-    private static void put(String text, GeeseSums x, Plain y) {
+    private static void put(String text, Run x, Plain y) {
         x.end(0);
         y.end(0);
         int[] w = Check.words(text);
@@ -137,7 +137,7 @@ public final class PlainTest {
     }
 
     private static void texts(int run) {
-        GeeseSums x = new GeeseSums();
+        Run x = new Run();
         Plain y = new Plain();
         for (int i = 0; i < 5; i++) {
             String text = spoil(netText());
@@ -171,51 +171,51 @@ public final class PlainTest {
     }
 
     private static void calls(int run) {
-        GeeseSums x = new GeeseSums();
+        Run x = new Run();
         Plain y = new Plain();
         String text = netText();
         put(text, x, y);
         Check.due("run " + run + " net() of " + text, x.net(), y.net());
-        for (int i = 0; i < 220; i++) {
-            String call = "run " + run + " call " + i + " on " + text + ": ";
+        // Behind these there are calls enough left to look at all at last.
+        while (x.calls() < 340) {
+            String call = "run " + run + " call " + x.calls() + " on " + text + ": ";
             if (below(3) > 0) {
                 earnest(call, x, y);
             } else {
                 reckonings(call, x, y);
             }
-            if (below(60) == 0) {
+            if (below(80) == 0) {
                 text = below(3) == 0 ? spoil(netText()) : netText();
                 put(text, x, y);
                 Check.due(call + "net()", x.net(), y.net());
             }
-            if (below(5) == 0) {
-                all(call, x, y);
+            if (below(6) == 0) {
+                look(call, x, y, 6);
             }
         }
-        all("run " + run + " at last, on " + text + ": ", x, y);
+        look("run " + run + " at last, on " + text + ": ", x, y, Run.MOST_CALLS - x.calls() - 6);
+        Check.due("run " + run + ": accounted", x.geese(0) + x.geese(1), x.geese(2) + x.geese(3) + x.geese(4) + x.geese(5));
     }
 
-    private static void all(String call, GeeseSums x, Plain y) {
-        for (int what = -1; what <= 14; what++) {
-            Check.due(call + "about(" + what + ")", x.about(what), y.about(what));
-        }
-        for (int what = -1; what <= 6; what++) {
-            Check.due(call + "geese(" + what + ")", x.geese(what), y.geese(what));
-        }
-        for (int i = -1; i <= 16; i++) {
-            for (int what = -1; what <= 4; what++) {
-                Check.due(call + "tower(" + i + ", " + what + ")", x.tower(i, what), y.tower(i, what));
-                Check.due(call + "way(" + i + ", " + what + ")", x.way(i, what), y.way(i, what));
+    /** So many answers of those that tell what there is. */
+    private static void look(String call, Run x, Plain y, int many) {
+        for (int i = 0; i < many; i++) {
+            int a = n(15);
+            int what = n(4);
+            int left = n(13);
+            switch (below(8)) {
+                case 0 -> Check.due(call + "about(" + a + ")", x.about(a), y.about(a));
+                case 1 -> Check.due(call + "geese(" + what + ")", x.geese(what), y.geese(what));
+                case 2 -> Check.due(call + "geese(" + left + ")", x.geese(left), y.geese(left));
+                case 3, 4 -> Check.due(call + "tower(" + a % 11 + ", " + what + ")", x.tower(a % 11, what), y.tower(a % 11, what));
+                case 5 -> Check.due(call + "way(" + a + ", " + what + ")", x.way(a, what), y.way(a, what));
+                case 6 -> Check.due(call + "flock(" + a + ", " + left + ")", x.flock(a, left), y.flock(a, left));
+                default -> Check.due(call + "lies(" + what + ")", x.lies(what), y.lies(what));
             }
-            for (int left = 0; left <= 13; left++) {
-                Check.due(call + "flock(" + i + ", " + left + ")", x.flock(i, left), y.flock(i, left));
-            }
-            Check.due(call + "lies(" + i + ")", x.lies(i), y.lies(i));
         }
-        Check.due(call + "accounted", x.geese(0) + x.geese(1), x.geese(2) + x.geese(3) + x.geese(4) + x.geese(5));
     }
 
-    private static void earnest(String call, GeeseSums x, Plain y) {
+    private static void earnest(String call, Run x, Plain y) {
         int a = n(3);
         int b = n(below(2) == 0 ? 20 : 1000);
         switch (below(13)) {
@@ -232,7 +232,7 @@ public final class PlainTest {
         }
     }
 
-    private static void reckonings(String call, GeeseSums x, Plain y) {
+    private static void reckonings(String call, Run x, Plain y) {
         int dusk = dusk(y);
         int beats = below(2) == 0 ? 1 + below(12) : n(101);
         int start = n(2);

@@ -30,6 +30,7 @@ public final class RulesTest {
         source();
         wildCalls();
         room();
+        edges();
         Check.close("RulesTest");
     }
 
@@ -199,5 +200,31 @@ public final class RulesTest {
             }
         }
         return elements;
+    }
+
+    // ---- the tests of boundary cases ----
+
+    /** Each promise and each heading of "Terms" has tests of its own, each with a remark that tells the sentence. */
+    private static void edges() throws Exception {
+        Class<?>[] tests = {EdgeTextTest.class, EdgeSkyTest.class, EdgeRowTest.class, EdgePathTest.class, EdgeSightTest.class,
+            EdgeRefusedTest.class};
+        TreeSet<String> seen = new TreeSet<>();
+        for (Class<?> test : tests) {
+            String source = Files.readString(Path.of("src/test/java/" + test.getSimpleName() + ".java"));
+            for (Method method : test.getDeclaredMethods()) {
+                if (method.getName().matches("(p\\d\\d|t\\d)[A-Z]\\w*")) {
+                    seen.add(method.getName().replaceAll("[A-Z].*", ""));
+                    String told = "\\*/\n    static void " + method.getName() + "\\(\\)";
+                    Check.due(test.getSimpleName() + "." + method.getName() + " has its remark", Pattern.compile(told).matcher(source).find(), true);
+                }
+            }
+        }
+        for (int promise = 1; promise <= 40; promise++) {
+            String name = promise < 10 ? "p0" + promise : "p" + promise;
+            Check.due("edges of promise " + promise, seen.contains(name), true);
+        }
+        for (int terms = 1; terms <= 4; terms++) {
+            Check.due("edges of Terms " + terms, seen.contains("t" + terms), true);
+        }
     }
 }

@@ -16,7 +16,6 @@ public final class EarnestTest {
         order();
         gust();
         farthest();
-        tooMany();
         undo();
         fortyActs();
         boxes();
@@ -342,23 +341,6 @@ public final class EarnestTest {
         Check.due("no one", x.flock(0, 1), 0);
         x.beats(2);
         Check.due("there, as one flock", x.tower(1, 3), 1);
-    }
-
-    /** More calls than are promised: fewer don't bring so many together but by long rings of bread. */
-    private static void tooMany() {
-        GeeseSums x = Check.on("start a;bread k 99;dusk d;way a to k in 1;way k to d in 1;");
-        for (int i = 1; i <= 1001; i++) {
-            Check.due("begin " + i, x.begin(0, 999), i * 999);
-        }
-        Check.due("one too many to wait", x.begin(0, 1), -1);
-        x.beats(1);
-        Check.due("so many set out together", x.way(0, 3), 999999);
-        x.beats(1);
-        Check.due("what is more is lost", x.way(1, 3), 999999);
-        geese("lost", x, 999999, 99, 999999, 0, 99, 0);
-        x.begin(0, 5);
-        x.beats(3);
-        Check.due("a dusk holds more", x.tower(2, 2), 999999 + 104);
     }
 
     private static void undo() {

@@ -841,10 +841,7 @@ public final class EdgeSkyTest {
         x.is(x.begin(0, 4), 4);
     }
 
-    /**
-     * Promise 10: "or there would be more than 999,999": as many as can wait within 512 calls are far below; so the limit itself is asked
-     * for with more calls than are promised (EarnestTest.tooMany does).
-     */
+    /** Promise 10: "or there would be more than 999,999": as many as can wait within 512 calls are far below. */
     static void p10AsManyAsCallsCanBegin() {
         Run x = Run.on("start a;");
         int waiting = 0;
@@ -856,6 +853,28 @@ public final class EdgeSkyTest {
         x.is(x.geese(0), waiting);
         x.is(x.beats(1), 1);
         x.is(x.geese(4), waiting);
+    }
+
+    /**
+     * Promise 10: "NONE, doing nothing, .. or there would be more than 999,999": 999,999 wait, one more can't. It takes more calls than the
+     * 512 that are promised: so this object is no Run.
+     */
+    static void p10MoreThan999999() {
+        GeeseSums x = Check.on("start a;start b;dusk d;way a to d in 1;");
+        for (int i = 1; i <= 1000; i++) {
+            Check.due("begin " + i, x.begin(0, 999), 999 * i);
+        }
+        Check.due("999,000 and 998", x.begin(0, 998), 999998);
+        Check.due("999,998 and 2", x.begin(0, 2), -1);
+        Check.due("999,998 and 999", x.begin(0, 999), -1);
+        Check.due("nothing was done", x.tower(0, 2), 999998);
+        Check.due("999,998 and 1", x.begin(0, 1), 999999);
+        Check.due("999,999 and 1", x.begin(0, 1), -1);
+        Check.due("at another START", x.begin(1, 999), 999);
+        Check.due("all that wait", x.geese(3), 1000998);
+        x.beats(2);
+        Check.due("all of them set out together", x.tower(2, 2), 999999);
+        Check.due("none of them is lost", x.geese(4), 999);
     }
 
     /** Promise 11: "So many BEATS (0 .. 60) go by: how many did": 0 and 60 are taken, -1 and 61 not. */

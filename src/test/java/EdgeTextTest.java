@@ -114,7 +114,7 @@ public final class EdgeTextTest {
         }
     }
 
-    /** Each token of a line left out with all behind it, and each one replaced by one that can't stand there. */
+    /** Each token of a line left out with all behind it, left out alone, and replaced by one that can't stand there. */
     private static void cutAndReplaced(String ahead, String line, String wrong) {
         String[] tokens = line.split(" ");
         StringBuilder text = new StringBuilder(ahead);
@@ -122,6 +122,11 @@ public final class EdgeTextTest {
             if (i > 0) {
                 Run.fault(text.toString(), 2, text.length());
                 Run.fault(text + wrong + " ;", 2, text.length());
+                StringBuilder without = new StringBuilder(text);
+                for (int k = i + 1; k < tokens.length; k++) {
+                    without.append(tokens[k]).append(" ");
+                }
+                Run.fault(without.toString(), 2, text.length());
             }
             text.append(tokens[i]).append(" ");
         }
@@ -272,6 +277,24 @@ public final class EdgeTextTest {
         for (int c = 0; c < 256; c++) {
             boolean isToken = isLetter(c) || isDigit(c) || isSign(c);
             Run.fault("" + (char) c, isBlank(c) ? 0 : isToken ? 2 : 1, isBlank(c) ? -1 : 0);
+        }
+    }
+
+    /** Terms 1: "signs": no N and no NAME is one, whatever its number or its letters are. */
+    static void t1NumbersAndNamesAreNoSigns() {
+        for (int n = 0; n <= 127; n++) {
+            Run.fault("join q " + n + " ", 2, 7);
+            Run.fault(CLAIM + "s " + n + " s;", 2, 30);
+            Run.fault("join q;way q " + n + " q in 1;", 2, 13);
+        }
+        for (char a = 'a'; a <= 'z'; a++) {
+            for (char b = 'a'; b <= 'd'; b++) {
+                // Where a sign is wanted, a NAME and the word "at" stand alike.
+                String name = "" + b + a + "q";
+                Run.fault("join q " + name + " ", 2, 7);
+                Run.fault(CLAIM + "s " + name + " s;", 2, 30);
+                Run.fault(CLAIM + "s " + b + a + " s;", 2, 30);
+            }
         }
     }
 

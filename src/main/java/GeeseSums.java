@@ -1813,7 +1813,8 @@ public final class GeeseSums {
         static final int MOST_BEATS = 60;
         static final int MOST_M = 9;
         private static final int MOST = 20;
-        private static final int NEVER = Integer.MAX_VALUE;
+        // Times are 0 at least.
+        private static final int NEVER = -1;
 
         int many;
         private final int[] dusks;

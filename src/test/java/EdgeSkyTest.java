@@ -870,6 +870,12 @@ public final class EdgeSkyTest {
         Check.due("nothing was done", x.tower(0, 2), 999998);
         Check.due("999,998 and 1", x.begin(0, 1), 999999);
         Check.due("999,999 and 1", x.begin(0, 1), -1);
+        Check.due("the last one undone", x.undo(), true);
+        Check.due("999,998 and 2 again", x.begin(0, 2), -1);
+        Check.due("a refused one is no ACT", x.about(6), 39);
+        Check.due("what was undone can be redone", x.about(7), 1);
+        Check.due("the last one redone", x.redo(), true);
+        Check.due("999,999 again", x.tower(0, 2), 999999);
         Check.due("at another START", x.begin(1, 999), 999);
         Check.due("all that wait", x.geese(3), 1000998);
         x.beats(2);

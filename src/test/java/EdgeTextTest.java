@@ -220,6 +220,104 @@ public final class EdgeTextTest {
         Run.fault(CLAIM + "(1 or 1 and 1 = 1);", 0, -1);
     }
 
+    private static final String[] OPERATORS = {"or", "and", "<", ">", "=", "+", "-", "*", "/", "%"};
+
+    /** e, both, one, sum, term: what is told later binds more. */
+    private static int level(String operator) {
+        switch (operator) {
+            case "or": return 0;
+            case "and": return 1;
+            case "<": case ">": case "=": return 2;
+            case "+": case "-": return 3;
+            default: return 4;
+        }
+    }
+
+    private static int joined(int a, String operator, int b) {
+        switch (operator) {
+            case "or": return a != 0 || b != 0 ? 1 : 0;
+            case "and": return a != 0 && b != 0 ? 1 : 0;
+            case "<": return a < b ? 1 : 0;
+            case ">": return a > b ? 1 : 0;
+            case "=": return a == b ? 1 : 0;
+            case "+": return a + b;
+            case "-": return a - b;
+            case "*": return a * b;
+            case "/": return b == 0 ? 0 : a / b;
+            default: return b == 0 ? 0 : a % b;
+        }
+    }
+
+    /** What a formula of N's says, with blanks between its TOKENS and without those that need not be. */
+    private static void says(String e, int want) {
+        String tight = e.replaceAll(" ?([<>=+*/%()-]) ?", "$1");
+        Run x = Run.on("dusk d;claim c at d " + e + ";claim t at d " + tight + ";");
+        x.is(x.says(0), want);
+        x.is(x.says(1), want);
+    }
+
+    /** Terms 1: "e = both {or both}. both = one {and one}. one = .. sum [..]. sum = term {..}. term = unit {..}": of each two, one behind the other. */
+    static void t1WhatBindsMore() {
+        int[][] units = {{7, 5, 3}, {9, 2, 4}, {0, 8, 8}, {1, 0, 6}, {6, 6, 0}};
+        for (String first : OPERATORS) {
+            for (String then : OPERATORS) {
+                boolean isThenAhead = level(then) > level(first);
+                for (int[] u : units) {
+                    String e = u[0] + " " + first + " " + u[1] + " " + then + " " + u[2];
+                    if (level(first) == 2 && level(then) == 2) {
+                        Run.fault("dusk d;claim c at d " + e + ";", 2, 26);
+                    } else if (isThenAhead) {
+                        says(e, joined(u[0], first, joined(u[1], then, u[2])));
+                    } else {
+                        says(e, joined(joined(u[0], first, u[1]), then, u[2]));
+                    }
+                    says("(" + u[0] + " " + first + " " + u[1] + ") " + then + " " + u[2], joined(joined(u[0], first, u[1]), then, u[2]));
+                    says(u[0] + " " + first + " (" + u[1] + " " + then + " " + u[2] + ")", joined(u[0], first, joined(u[1], then, u[2])));
+                }
+            }
+        }
+    }
+
+    /** The same sentence: three of a kind from the left; a relation between sums, of terms, of units. */
+    static void t1FromTheLeft() {
+        says("20 - 7 - 5 - 3", 5);
+        says("20 - 7 + 5 - 3", 15);
+        says("200 / 7 / 5 / 2", 2);
+        says("100 / 7 * 5 % 9 / 2", 3);
+        says("1 + 2 * 3 - 8 / 4 % 3 - 1", 4);
+        says("1 + 2 * 3 > 2 * 3 and 5 - 1 < 2 * 2 or 0", 0);
+        says("1 + 2 * 3 > 2 * 3 and 5 - 1 < 2 * 2 or 9", 1);
+        says("0 and 0 or 5", 1);
+        says("5 or 0 and 0", 1);
+        says("(5 or 0) and 0", 0);
+        says("1 = 0 or 0 = 1 or 1 = 1", 1);
+        says("1 = 0 or 0 = 1 or 1 = 2", 0);
+        says("2 * (3 + 4) * 5", 70);
+        says("((2))", 2);
+        says("(1 < 2) + (1 < 2) + (2 < 1)", 2);
+    }
+
+    /** Terms 1: "one = not one | sum [(< | > | =) sum]": not is of a whole one, relation and all, and of no more. */
+    static void t1NotOfAWholeOne() {
+        int[][] units = {{7, 5}, {5, 5}, {0, 8}, {1, 0}, {0, 0}};
+        for (String operator : OPERATORS) {
+            for (int[] u : units) {
+                String rest = u[0] + " " + operator + " " + u[1];
+                int joined = joined(u[0], operator, u[1]);
+                int negated = level(operator) < 2 ? joined(u[0] == 0 ? 1 : 0, operator, u[1]) : joined == 0 ? 1 : 0;
+                says("not " + rest, negated);
+                says("not (" + rest + ")", joined == 0 ? 1 : 0);
+                says("not not (" + rest + ")", joined == 0 ? 0 : 1);
+                says("(not " + u[0] + ") " + operator + " " + u[1], joined(u[0] == 0 ? 1 : 0, operator, u[1]));
+            }
+        }
+        says("1 and not 0 and 1", 1);
+        says("1 and not 0 and 0", 0);
+        says("not 1 or not 0", 1);
+        says("not 0 = 1", 1);
+        says("not 1 + 1", 0);
+    }
+
     /** Terms 1: "TOKENS: words (a .. z ..)": each letter is one, and as the last of eight it tells NAMES apart. */
     static void t1WordsOfEachLetter() {
         for (char c = 'a'; c <= 'z'; c++) {

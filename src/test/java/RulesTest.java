@@ -84,6 +84,11 @@ public final class RulesTest {
         String all = Files.readString(Path.of("src/main/java/GeeseSums.java"));
         Check.due("plain letters", all.chars().allMatch(c -> c == '\n' || c >= 32 && c < 127), true);
         String code = all.replaceAll("(?s)/\\*.*?\\*/", "").replaceAll("//[^\n]*", "").replaceAll("\"[^\"\n]*\"", "\"\"");
+        Check.due("no texts joined by +", Pattern.compile("\"\\s*\\+|\\+\\s*\"").matcher(code).find(), false);
+        for (String word : "Random Thread Runtime Process File Date Instant Object Iterator Collections float double".split(" ")) {
+            Check.due("no " + word, Pattern.compile("\\b" + word + "\\b").matcher(code).find(), false);
+        }
+        loopsHaveBounds(code);
         for (String word : ("throw throws try catch finally synchronized assert import package native volatile transient instanceof "
             + "new\\s+\\w+\\s*\\(\\)\\s*\\{ -> :: var record enum interface goto Exact protected while").split(" ")) {
             String wanted = word.matches("\\w+") ? "\\b" + word + "\\b" : word;
@@ -95,6 +100,18 @@ public final class RulesTest {
             Check.due(name + " is in the library", List.of("System.arraycopy", "Math.min", "Math.max").contains(name), true);
         }
         methodsAreShort(code);
+    }
+
+    /** Rule 9: every loop counts something against a bound. */
+    private static void loopsHaveBounds(String code) {
+        Matcher loop = Pattern.compile("\\b(for|while|do)\\b([^{]*)\\{").matcher(code);
+        int loops = 0;
+        while (loop.find()) {
+            loops++;
+            String head = loop.group(2).trim();
+            Check.due("counts against a bound: " + head, head.matches("\\(int (\\w+) = [^;]+; .*\\b\\1 (<|<=|>|>=) [^;]+; \\1(\\+\\+|--| -= \\d+)\\)"), true);
+        }
+        Check.due("loops were seen", loops > 50, true);
     }
 
     private static void methodsAreShort(String code) {
